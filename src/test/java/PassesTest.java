@@ -42,6 +42,14 @@ public final class PassesTest {
         Scenes.state("uneven", y, 0, 13, 1700, 0, 104, 0);
         Due.same("uneven: period", y.period(0), 9);
 
+        // Thrown out at 1900 by 204, back at step 150 at 17396, out again at step 299 at 2496.
+        CometBench far = thrown(0, 40, 1, 1970, 30, 17326, 19, 2566);
+        Due.same("first and last step: keep", far.keep(), 1);
+        Scenes.state("first and last step", far, 0, 1, 1900, 0, 104, 0);
+        Scenes.state("first and last step", far, 0, 150, 17396, 0, -100, 0);
+        Scenes.state("first and last step", far, 0, 299, 2496, 0, 104, 0);
+        Due.same("first and last step: period", far.period(0), 298);
+
         CometBench z = Scenes.cross(1000, 500);
         z.keep();
         Due.same("one pass only", z.period(0), 0);
@@ -57,6 +65,13 @@ public final class PassesTest {
         Scenes.state("thrown out", x, 0, 13, 1700, 0, 999900, 0);
         Due.same("thrown out", x.at(0, 14, 0), -1000000);
         Due.same("thrown out: period", x.period(0), 0);
+
+        // Thrown out by 62500 it is lost one step later, which is too late to matter.
+        CometBench late = thrown(0, 40, 4, 1700, 5, 1700, 9, 1900, 10, 1900, 13, 1704);
+        late.keep();
+        Scenes.state("thrown out late", late, 0, 14, 64100, 0, 62400, 0);
+        Due.same("thrown out late", late.at(0, 15, 0), -1000000);
+        Due.same("thrown out late: period", late.period(0), 9);
 
         // Even again, seen from step 10 on; and once more so that it is lost at 0 on the way back.
         int[] even = {4, 1700, 5, 1700, 9, 1900, 10, 1900, 14, 1700, 15, 1700, 19, 1900, 20, 1900,
@@ -122,6 +137,10 @@ public final class PassesTest {
     }
 
     private static void span() {
+        CometBench one = thrown(0, 10, 0, 1900, 4, 1700, 5, 1700, 9, 1900);
+        one.keep();
+        Due.same("span least of one", one.span(false), 10);
+        Due.same("span greatest of one", one.span(true), 10);
         CometBench x = orbits();
         x.grid(960, 20, 4);
         int count = x.keep();
@@ -203,6 +222,14 @@ public final class PassesTest {
         y.keep();
         Due.same("as near twice", y.near(0, 3, 7), 520000);
         Due.same("the least step", y.nearest(), 4);
+
+        CometBench own = Scenes.cross(1000, 500);
+        Scenes.earth(own, 31, 5, 500, 750);
+        own.keep();
+        Due.same("its own distance, not the next one's", own.near(0, 5, 5), 62500);
+        Due.same("the next one's", own.near(1, 5, 5), 0);
+        Due.same("any one's", own.near(-1, 5, 5), 0);
+        Due.same("the step", own.nearest(), 5);
 
         // Of 400, 900 and 600, 600 at step 6, of 200, 1200 and 300, 800 at step 8: 100 off both
         // times, the second way at the step that is less.

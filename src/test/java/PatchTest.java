@@ -10,8 +10,8 @@ public final class PatchTest {
     }
 
     private static void patch(String scene, CometBench x, int step, int width, int left, int right) {
-        Due.same(scene + ": patch(" + step + ")", x.patch(step), width);
         Due.same(scene + ": side(" + step + ", true)", x.side(step, true), left);
+        Due.same(scene + ": patch(" + step + ")", x.patch(step), width);
         Due.same(scene + ": side(" + step + ", false)", x.side(step, false), right);
     }
 

@@ -115,6 +115,15 @@ public final class StartTest {
         // Without a table it is where the sun is; each pull is cut for itself: 9.8 and 1.9.
         Scenes.state("planet without a table", y, 0, 1, 1000, 100, -10, 100);
 
+        CometBench one = Scenes.oneDay(1000, 100);
+        one.round(true, 20000, 20000);
+        one.round(true, 1001, 100);
+        one.keep();
+        Scenes.state("a planet of no mass at first", one, 0, 1, 1000, 100, -9, 100);
+        one.masses(10000000, 1);
+        one.keep();
+        Scenes.state("the least mass from the least distance", one, 0, 1, 1000, 100, -8, 100);
+
         CometBench z = Scenes.oneDay(1000, 100);
         z.masses(10000000, 1000000000);
         z.round(true, 20000, 20000);

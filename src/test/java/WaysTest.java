@@ -5,7 +5,8 @@ public final class WaysTest {
         keepRefused();
         cutTowardsZero();
         directions();
-        aimedThreeTimes();
+        aimedThreeTimes(1, 0);
+        aimedThreeTimes(0, 1);
         way();
         at();
         lostFar();
@@ -39,8 +40,21 @@ public final class WaysTest {
         Due.same("none is left", x.way(0, 0), -1000000);
         x.unsee();
         x.unsee();
+        x.sight(2, 5, -1, -1, 0);
+        x.sight(0, 5, -1, -1, 0);
+        Due.same("a night behind an annal", x.keep(), 0);
+        x.unsee();
+        x.unsee();
         Due.same("all again", x.keep(), 4);
         Due.same("the last one again", x.at(3, 5, 1), 750);
+        CometBench y = new CometBench();
+        y.masses(0, 0);
+        y.sight(0, 5, 1, 1, 0);
+        y.sight(0, 10, 0, 1, 0);
+        y.sight(0, 0, 1, 0, 0);
+        y.grid(1000, 500, 2);
+        y.base(1, 2);
+        Due.same("the first sight counts without being of the base", y.keep(), 2);
     }
 
     private static void keepRefused() {
@@ -86,25 +100,27 @@ public final class WaysTest {
         }
     }
 
-    private static void aimedThreeTimes() {
+    private static void aimedThreeTimes(int a, int b) {
         CometBench x = new CometBench();
         // Nothing pulls but a planet, and that at step 1: by its mass over its distance's square.
         x.masses(0, 100000);
-        x.sight(0, 0, 1, 0, 1000);
-        x.sight(0, 2, 1, 0, 1000);
+        x.sight(0, 0, a, b, 1000);
+        x.sight(0, 2, a, b, 1000);
         x.grid(1000, 1, 1);
         x.base(0, 1);
-        x.round(true, 1100, 0);
-        x.round(true, 1010, 0);
-        x.round(true, 20000, 0);
+        x.round(true, 1100 * a, 1100 * b);
+        x.round(true, 1010 * a, 1010 * b);
+        x.round(true, 20000 * a, 20000 * b);
         // u = 0: at 1000, pulled by 1000, at 2000 in the end: u = -500. At 500, then at 0: lost.
         Due.same("aimed into the sun: keep", x.keep(), 0);
         x.masses(0, 10000);
         Due.same("aimed again: keep", x.keep(), 1);
         // u = 0: at 1000, pulled by 100, at 1100: u = -50. At 950, pulled by 2, at 902: u = -1.
         // At 999, pulled by 82, at 1080: u = -41, and no fourth time.
-        Due.same("aimed three times", x.way(0, 4), -41);
-        Due.same("where it is then", x.at(0, 2, 0), 959 + -41 + 3);
+        Due.same("aimed three times", x.way(0, a == 1 ? 4 : 5), -41);
+        Due.same("aimed three times", x.way(0, a == 1 ? 5 : 4), 0);
+        // 51 off at step 1: pulled by 3.
+        Due.same("where it is then", x.at(0, 2, a == 1 ? 0 : 1), 959 + -41 + 3);
     }
 
     private static void way() {
@@ -146,6 +162,14 @@ public final class WaysTest {
             y.keep();
             Scenes.state(scene, y, 0, -250, d[0] * -100000, d[1] * -100000, d[0] * 404, d[1] * 404);
             Due.same(scene + " far back", y.at(0, -251, 0), -1000000);
+            CometBench z = Scenes.line(d[0], d[1], 14143);
+            z.keep();
+            Due.same(scene + " at 85858", z.at(0, 6, 0), d[0] * 85858);
+            Due.same(scene + " at 100001", z.at(0, 7, 0), -1000000);
+            CometBench back = Scenes.line(d[0], d[1], 393);
+            back.keep();
+            Due.same(scene + " at -99608", back.at(0, -256, 1), d[1] * -99608);
+            Due.same(scene + " at -100001", back.at(0, -257, 1), -1000000);
         }
     }
 
@@ -245,6 +269,13 @@ public final class WaysTest {
         for (int[] one : wrong) {
             Due.same("fits(" + one[0] + ", " + one[1] + ")", x.fits(one[0], one[1]), -1);
         }
+        CometBench z = Scenes.cross(1000, 500);
+        Scenes.earth(z, 31, 5, 500, 500, 6, 399, 600);
+        z.sight(2, 5, 1, 0, 1000);
+        z.sight(2, 6, 1, 0, 0);
+        z.keep();
+        Due.same("nothing along, nothing aside", z.fits(0, 2), 0);
+        Due.same("1 along, nothing aside", z.fits(0, 3), 1);
         CometBench y = Scenes.line(1, 0, 990);
         y.sight(2, 100, 1, 0, 1000);
         y.sight(2, 101, 1, 0, 1000);
@@ -261,6 +292,7 @@ public final class WaysTest {
         Due.same("nothing is kept by that", x.all(3), -1);
         Due.same("keep", x.keep(), 2);
         Due.same("without the third night", x.without(2), 4);
+        Due.same("KEPT are not those", x.way(1, 1), 1);
         Due.same("without the annal", x.without(3), 2);
         Due.same("KEPT are as they were", x.all(3), 2);
         Due.same("KEPT are as they were", x.way(1, 2), 1500);
@@ -286,8 +318,9 @@ public final class WaysTest {
         x.masses(1000000000, 0);
         Due.same("without by the masses as they are now", x.without(2) < 4, true);
         x.masses(0, 0);
-        x.round(false, 0, 5);
-        Due.same("without by the earth as it is now", x.without(2), 4);
+        x.round(false, -1000, 20);
+        // The less distance ends in the sun now.
+        Due.same("without by the earth as it is now", x.without(2), 2);
     }
 
     private static void asItWasThen() {
