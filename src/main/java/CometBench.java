@@ -473,12 +473,13 @@ public final class CometBench {
 
     /** Lays the directions of all kept ways that aren't lost at a step into the patch. */
     private void look(int step) {
+        int earthX = then.earth.xAt(step);
+        int earthY = then.earth.yAt(step);
         seen.count = 0;
         for (int k = 0; k < keptCount; k++) {
             Way asked = keptWay(k);
             if (asked != null && asked.isThere(step)) {
-                seen.take(k, asked.xAt(step) - then.earth.xAt(step),
-                        asked.yAt(step) - then.earth.yAt(step));
+                seen.take(k, asked.xAt(step) - earthX, asked.yAt(step) - earthY);
             }
         }
     }
