@@ -226,8 +226,8 @@ public final class PassesTest {
         CometBench own = Scenes.cross(1000, 500);
         Scenes.earth(own, 31, 5, 500, 750);
         own.keep();
-        Due.same("its own distance, not the next one's", own.near(0, 5, 5), 62500);
         Due.same("the next one's", own.near(1, 5, 5), 0);
+        Due.same("its own distance, not the next one's", own.near(0, 5, 5), 62500);
         Due.same("any one's", own.near(-1, 5, 5), 0);
         Due.same("the step", own.nearest(), 5);
 

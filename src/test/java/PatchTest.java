@@ -18,6 +18,7 @@ public final class PatchTest {
     private static void width() {
         CometBench x = Scenes.cross(1000, 500);
         x.keep();
+        Due.same("asked first of all", x.patch(5), 416);
         // 500, 750 is left of 750, 500: 312500 over 750000.
         patch("four", x, 5, 416, 1, 2);
         patch("four", x, 4, 384, 1, 2);

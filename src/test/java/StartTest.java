@@ -4,6 +4,7 @@ public final class StartTest {
         newBench();
         round();
         tablesGoRound();
+        oneStandsStill();
         masses();
         pulls();
         counts();
@@ -74,6 +75,14 @@ public final class StartTest {
         Due.same("near 3", x.near(0, 3, 3), 1000 * 1000 + 300 * 300);
     }
 
+    private static void oneStandsStill() {
+        CometBench x = Scenes.cross(1000, 500);
+        x.round(false, 30, 40);
+        Due.same("one place: keep", x.keep(), 4);
+        Scenes.state("one place", x, 0, 0, 1030, 40, -100, 100);
+        Scenes.state("one place", x, 0, 10, 30, 1040, -100, 100);
+    }
+
     private static void masses() {
         CometBench x = new CometBench();
         Due.same("masses 0", x.masses(0, 0), true);
@@ -99,6 +108,11 @@ public final class StartTest {
         // 10000000 * 1000 / (1000000 * 1000) = 10 is taken back ahead of the place.
         Scenes.state("masses at first", x, 0, -1, 990, -100, 10, 100);
         Due.same("masses at first: at(0, 2, 0)", x.at(0, 2, 0), 991);
+
+        // 10000000 * 1400 / (1987225 * 1409) is a little below 5, and one mass more would make it 5.
+        CometBench just = Scenes.oneDay(1400, 165);
+        just.keep();
+        Scenes.state("not more than that at first", just, 0, 1, 1400, 165, 396, 165);
 
         x.masses(10000000, 2000000);
         x.round(true, 1500, 0);

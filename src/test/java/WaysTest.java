@@ -292,7 +292,7 @@ public final class WaysTest {
         Due.same("nothing is kept by that", x.all(3), -1);
         Due.same("keep", x.keep(), 2);
         Due.same("without the third night", x.without(2), 4);
-        Due.same("KEPT are not those", x.way(1, 1), 1);
+        Due.same("KEPT are not those", x.way(1, 0), 1);
         Due.same("without the annal", x.without(3), 2);
         Due.same("KEPT are as they were", x.all(3), 2);
         Due.same("KEPT are as they were", x.way(1, 2), 1500);
