@@ -530,11 +530,11 @@ public final class CometBench {
         }
 
         int xAt(int step) {
-            return count < 1 ? 0 : xs[Math.floorMod(step, count)];
+            return count < 1 || count > MOST_PLACES ? 0 : xs[Math.floorMod(step, count)];
         }
 
         int yAt(int step) {
-            return count < 1 ? 0 : ys[Math.floorMod(step, count)];
+            return count < 1 || count > MOST_PLACES ? 0 : ys[Math.floorMod(step, count)];
         }
 
         void become(Table other) {
