@@ -11,6 +11,7 @@ public final class EdgesOfPlacesTest {
         massesAtTheEdge();
         massesAtFirst();
         rootIsNotAbove();
+        rootsNextToSquares();
         pullsAreCutTowardsZero();
         noPullFromNoDistance();
         strongestPulls();
@@ -210,6 +211,32 @@ public final class EdgesOfPlacesTest {
         thrown(130000, 5, 1, 5000, 1000);
         // 1000 * 1000 + 999 * 999 and 2 * 999 more to the next square: the root of it is 1413.
         thrown(1000000000, 1000, 999, 354, 353);
+    }
+
+    private static long root(long square) {
+        return java.math.BigInteger.valueOf(square).sqrt().longValueExact();
+    }
+
+    /** All p, q whose square is one of a whole number, or 1 less, or 1 more. */
+    private static void rootsNextToSquares() {
+        int met = 0;
+        for (int p = 1; p <= 150; p++) {
+            for (int q = 0; q <= p; q++) {
+                long s = (long) p * p + (long) q * q;
+                long r = root(s);
+                if (s > r * r + 1 && s < r * r + 2 * r) {
+                    continue;
+                }
+                met++;
+                CometBench x = Scenes.begun(0, 5000, 5000, 0, 0);
+                x.masses(0, 1000000000);
+                x.round(true, 5000 + p, 5000 - q);
+                x.keep();
+                Due.same("from " + p + ", " + -q + ": across", x.at(0, 1, 2), 1000000000L * p / (s * r));
+                Due.same("from " + p + ", " + -q + ": down", x.at(0, 1, 3), 1000000000L * -q / (s * r));
+            }
+        }
+        Due.same("some of all three", met > 300, true);
     }
 
     private static void pullsAreCutTowardsZero() {
