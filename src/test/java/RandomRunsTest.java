@@ -20,7 +20,7 @@ public final class RandomRunsTest {
     }
 
     public static void main(String[] args) {
-        int runs = args.length > 0 ? Integer.parseInt(args[0]) : 1200;
+        int runs = args.length > 0 ? Integer.parseInt(args[0]) : 1500;
         for (int seed = 1; seed <= runs; seed++) {
             new RandomRunsTest(seed).run();
         }
@@ -76,7 +76,9 @@ public final class RandomRunsTest {
     }
 
     private void run() {
-        if (seldom(5)) {
+        if (seldom(4)) {
+            beginAtEdges();
+        } else if (seldom(5)) {
             beginWild();
         } else {
             beginWithComet();
@@ -134,6 +136,34 @@ public final class RandomRunsTest {
                 i < 2 ? Math.max(miss, 40) : miss);
         }
         grid(Math.max(1, Math.min(20000, radius / 2)), among(1, Math.max(1, radius / 3)), among(1, 10));
+        base();
+    }
+
+    private int either(int... values) {
+        return values[random.nextInt(values.length)];
+    }
+
+    /** Values at their ends and few directions: much is in one line, opposite or on the earth. */
+    private void beginAtEdges() {
+        masses(either(0, 0, 0, 1, 10000000, 1000000000), either(0, 0, 1, 1000000, 1000000000));
+        int unit = either(1, 100, 500, 1000);
+        int places = either(0, 0, 1, 1, 2, 3, 40);
+        for (int i = 0; i < places; i++) {
+            round(false, unit * among(-3, 3), unit * among(-3, 3));
+        }
+        places = either(0, 1, 2, 40);
+        for (int i = 0; i < places; i++) {
+            round(true, unit * among(-3, 3), unit * among(-3, 3));
+        }
+        int first = either(-300, -1, 0, 1, 290);
+        int sights = either(2, 2, 3, 12);
+        for (int i = 0; i < sights; i++) {
+            int kind = i < 2 ? 0 : among(0, 2);
+            int step = i == 0 ? first : i == 1 ? first + either(1, 2, 5, 10) : first + among(0, 10);
+            int miss = i < 2 ? either(0, 1000, 1000) : 1000;
+            sight(kind, step, either(-1, 0, 1, 1000), either(-1, 0, 1, 1000), miss);
+        }
+        grid(either(unit, 1, 20000, 2 * unit), either(unit, 1, 2000), either(1, 2, 3, 10));
         base();
     }
 
